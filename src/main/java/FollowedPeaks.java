@@ -40,6 +40,9 @@ public final class FollowedPeaks {
     private final Joiner joiner = new Joiner();
     private final Tracks tracks = new Tracks();
     private final Seen seen = new Seen();
+    // NONE until it is asked.
+    private int bestReach = NONE;
+    private int fewestTracks;
 
     public FollowedPeaks() {
         for (int i = 0; i < IMAGES; i++) {
@@ -184,16 +187,18 @@ public final class FollowedPeaks {
         if (what < 0 || what > 1) {
             return BAD;
         }
-        int bestReach = SETTING_LOWEST[REACH];
-        int fewest = tracksByReach(bestReach);
-        for (int reach = bestReach + 1; reach <= SETTING_HIGHEST[REACH]; reach++) {
-            int many = tracksByReach(reach);
-            if (many < fewest) {
-                fewest = many;
-                bestReach = reach;
+        // All reaches are tried once for each scene, however often it is asked.
+        if (bestReach == NONE) {
+            fewestTracks = TRACKS_MOST + 1;
+            for (int reach = SETTING_LOWEST[REACH]; reach <= SETTING_HIGHEST[REACH]; reach++) {
+                int many = tracksByReach(reach);
+                if (many < fewestTracks) {
+                    fewestTracks = many;
+                    bestReach = reach;
+                }
             }
         }
-        return what == 0 ? bestReach : fewest;
+        return what == 0 ? bestReach : fewestTracks;
     }
 
     // ---- which track
@@ -290,6 +295,7 @@ public final class FollowedPeaks {
     private void followAnew() {
         peaks.find(scene);
         tracks.follow(peaks, joiner, scene.settings[REACH]);
+        bestReach = NONE;
     }
 
     private static boolean isSetting(int what, int n) {

@@ -151,6 +151,9 @@ public final class PromisesTest {
         dueTells("frame 000;fram 000;", -20);
         dueTells("frame 000;ree", -20);
         dueTells("Frame 000;", -10);
+        dueTells("brame 000;", -10);
+        dueTells("framez 000;", -10);
+        dueTells("aframe 000;", -10);
         dueTells("fRame 000;", -10);
         dueTells("frame 000;\t", -20);
         dueTells("frame 0-0;", -16);
@@ -344,6 +347,10 @@ public final class PromisesTest {
         dueJoined("frame 9000900090;frame 0090009000;reach 8;", 0, 1, NONE);
         dueJoined("frame 0090009000;frame 9000900090;reach 8;", 0, 1);
         dueJoined("frame 909;frame 000;frame 909;reach 20;", NONE, NONE);
+        // Six with six, and five with six.
+        dueJoined("frame 909090909090;frame 090909090909;reach 4;", 0, 1, 2, 3, 4, 5);
+        dueJoined("frame 090909090900;frame 909090909090;reach 4;", 0, 1, 2, 3, 4);
+        dueJoined("frame 909090909090;frame 090909090900;reach 4;", 0, 1, 2, 3, 4, NONE);
         // By quarters: 12 and 7 are 5 apart, 12 and 5 are 7 apart.
         dueJoined("frame 0009;frame 0290;reach 4;", NONE);
         dueJoined("frame 0009;frame 0290;reach 5;", 0);
@@ -426,6 +433,9 @@ public final class PromisesTest {
         dueTrack("frame 0900;frame 0090;frame 0009;frame 0090;frame 0009;", 8, 2, 2, 127);
         // Two steps with one turn.
         dueTrack("frame 090;frame 009;frame 090;", 4, 1, 2, 77);
+        // All eight frames, the last one too.
+        dueTrack("frame090;".repeat(8), 0, 0, 0, 72);
+        dueTrack("frame090;frame009;".repeat(4), 4, 6, 2, 212);
         // Downward all the way.
         dueTrack("frame 0009;frame 0050;frame 0100;", 8, 0, 1, 22);
     }
@@ -437,6 +447,16 @@ public final class PromisesTest {
         due("11 turns of " + text, x.track(0, 4), turns);
         due("11 kind of " + text, x.track(0, 5), kind);
         due("11 worth of " + text, x.track(0, 6), worth);
+        // Nothing of what was followed earlier is left in what is followed now.
+        x.levels(0, 0, x.level(0, 0) == 9 ? 8 : 9);
+        x.undo();
+        due("11 turns again of " + text, x.track(0, 4), turns);
+        due("11 worth again of " + text, x.track(0, 6), worth);
+        Checks.tell(x, "frame 300;frame 000;frame 003;");
+        due("11 another text behind " + text, x.track(0, 6), 3);
+        due("11 its turns behind " + text, x.track(0, 4), 0);
+        due("11 its second track behind " + text, x.track(1, 0), 2);
+        due("11 its tracks behind " + text, x.count(5), 2);
     }
 
     private static void promise11TrackWrong() {
@@ -469,16 +489,26 @@ public final class PromisesTest {
         dueBest("frame 000;", 0, 0);
         dueBest("frame 909;", 0, 2);
         dueBest("frame 909;frame 909;", 0, 2);
+        dueBest("frame 090;frame 091;", 1, 1);
+        dueBest("frame 190;frame 091;", 2, 1);
         dueBest("frame 900;frame 009;reach 3;", 8, 1);
         dueBest("frame 900000;frame 000009;", 20, 1);
         dueBest("frame 9000000;frame 0000009;", 0, 2);
         dueBest("frame 900000;frame 090000;frame 000009;", 16, 1);
         dueBest("frame 90009;frame 91000;frame 00009;floor 2;", 15, 2);
         FollowedPeaks x = Checks.told("frame 900;frame 009;least 8;");
-        x.best(0);
+        due("13 best ahead of a change", x.best(0), 8);
         due("13 nothing is changed", x.count(5), 2);
         due("13 reach is not changed", x.count(3), 4);
         due("13 joined is not changed", x.peak(0, 0, 4), NONE);
+        x.levels(1, 1, 9);
+        due("13 best behind a change", x.best(0), 5);
+        x.undo();
+        due("13 best behind undo", x.best(0), 8);
+        x.sets(0, 9);
+        x.levels(1, 2, 8);
+        due("13 floor counts", x.best(1), 1);
+        due("13 floor counts", x.best(0), 0);
         due("13 what -1", x.best(-1), BAD);
         due("13 what 2", x.best(2), BAD);
     }

@@ -77,6 +77,10 @@ public final class RulesTest {
         for (Class<?> c : inside) {
             int modifiers = c.getModifiers();
             CHECKS.dueTrue(c.getName() + " is static", Modifier.isStatic(modifiers));
+            for (Method m : c.getDeclaredMethods()) {
+                CHECKS.dueTrue(m.getName() + " bears no name of the face",
+                    FACE.stream().noneMatch(face -> face.startsWith(m.getName() + "(")));
+            }
             CHECKS.dueTrue(c.getName() + " is hidden", !Modifier.isPublic(modifiers) && !Modifier.isProtected(modifiers));
         }
     }
