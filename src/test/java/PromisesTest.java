@@ -609,6 +609,8 @@ public final class PromisesTest {
         x.forget();
         Checks.tell(x, "frame 0000;frame 0000;frame 9090;least 8;");
         due("17 the last frame", x.listen(), 2);
+        Checks.tell(x, "frame 000000909000;frame 000000009090;reach 8;");
+        due("17 high pitches, as many in each", x.listen(), 0);
         Checks.tell(x, "frame 9000;frame 0009;frame 9000;reach 0;");
         due("17 as many in each, the earliest", x.listen(), 0);
     }
