@@ -33,6 +33,7 @@ public final class PromisesTest {
         promise18Keep();
         promise19Back();
         promise20Count();
+        mostTracks();
         farNumbers();
         CHECKS.end();
     }
@@ -679,6 +680,30 @@ public final class PromisesTest {
         due("20 the lowest of several", x.count(7), 0);
         due("20 what -1", x.count(-1), BAD);
         due("20 what 11", x.count(11), BAD);
+    }
+
+    /** Eight frames of six peaks each, none of them joined: 48 tracks, the most there can be. */
+    private static void mostTracks() {
+        FollowedPeaks x = Checks.told("frame90909090909;frame91929394959;".repeat(4));
+        due("most: six tracks by reach 4", x.count(5), 6);
+        due("most: sets", x.sets(1, 0), 4);
+        due("most: tracks", x.count(5), 48);
+        due("most: kept", x.count(6), 48);
+        due("most: longest", x.count(7), 0);
+        due("most: born in the last", x.track(47, 0), 7);
+        due("most: pitch of the last", x.track(47, 7), 39);
+        due("most: worth of the last", x.track(47, 6), 9);
+        due("most: no more", x.track(48, 0), NO);
+        due("most: track of the last peak", x.peak(7, 5, 3), 47);
+        due("most: sum", x.frame(7, 1), 54);
+        due("most: born", x.frame(7, 3), 6);
+        due("most: end", x.frame(0, 4), 6);
+        due("most: which", x.which(0), 48);
+        due("most: listen", x.listen(), 0);
+        due("most: best(0)", x.best(0), 1);
+        due("most: best(1)", x.best(1), 6);
+        x.sees(7, 39);
+        due("most: the last is found", x.which(1), 47);
     }
 
     private static void farNumbers() {
