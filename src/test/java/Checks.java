@@ -21,6 +21,13 @@ final class Checks {
         due(what, holds ? 1 : 0, 1);
     }
 
+    /** count(0), count(1), .. are these. */
+    void dueCounts(String name, FollowedPeaks x, int... want) {
+        for (int what = 0; what < want.length; what++) {
+            due(name + ": count(" + what + ")", x.count(what), want[what]);
+        }
+    }
+
     boolean anyFailed() {
         return failed > 0;
     }
