@@ -249,7 +249,8 @@ public final class TextBoundsTest {
 
     /** "one at least", "the text's length, if it ends too early (also without a frame)" */
     private static void framesAreOneAtLeast() {
-        for (String text : List.of("", " ", "     ", "floor 1;", "reach 0;", "least 8;", "floor 9;reach 20;least 1; ")) {
+        for (String text : List.of("", " ", "     ", "floor 1;", "reach 0;", "least 8;", "floor 9;reach 20;least 1;",
+                "floor 9;reach 20;least 1; ")) {
             dueFault(text, text.length());
         }
         dueTells("frame 000;", 1);

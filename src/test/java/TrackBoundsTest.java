@@ -73,8 +73,8 @@ public final class TrackBoundsTest {
     private static void longFrom1To8() {
         for (int born = 0; born < 8; born++) {
             for (int end = born; end < 8; end++) {
-                String text = "frame000;".repeat(born) + "frame050;".repeat(end - born + 1) + "frame000;".repeat(7 - end);
                 int length = end - born + 1;
+                String text = "frame000;".repeat(born) + "frame050;".repeat(length) + "frame000;".repeat(7 - end);
                 dueTrack(text, 0, born, length, 1, 0, 0, 0, 5 * length, 4);
                 FollowedPeaks x = Checks.told(text);
                 due("one track of " + text, x.count(5), 1);
